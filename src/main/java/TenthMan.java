@@ -1141,8 +1141,8 @@ public final class TenthMan {
 
     /** Reckons what tests and bribes come to: the code is a row of numbers (0 and above) and operations (below). */
     private static final class Judge {
-        private static final int FIRST_FACT = -2;
-        private static final int LAST_FACT = -6;
+        private static final int FIRST_FACT = -1;
+        private static final int LAST_FACT = -5;
         private static final int NOT = -10;
         private static final int OR = -11;
         private static final int AND = -12;
