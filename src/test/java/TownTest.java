@@ -208,6 +208,7 @@ public final class TownTest {
         c.due("undo", false, x.undo());
         seedStays(c);
         beginsAnew(c);
+        manyTowns(c);
     }
 
     private static void seedStays(Check c) {
@@ -229,6 +230,22 @@ public final class TownTest {
         c.due("coins", 9, x.has(7));
         c.due("passed", 0, x.man(0, 2));
         c.due("place", 0, x.person(0, 0));
+    }
+
+    /** Nothing of towns told or refused earlier is left in a later one. */
+    private static void manyTowns(Check c) {
+        TenthMan x = Check.told("hour 1;hour 2;");
+        Check.town(x, "hour 3;hour 4;hour 5;");
+        c.due("an empty town", 0, Check.town(x, ""));
+        c.due("hour", 0, x.has(4));
+        String sum = "1" + "+1".repeat(700);
+        for (int i = 0; i < 6; i++) {
+            String text = "room a;man m lets not all bribe 0*" + sum + "+" + i + "-660 tires 1;person p at a to a coins 1 tact 1;";
+            c.due("a long sum", 3, Check.town(x, text));
+            c.due("its bribe", 700 + i - 660, x.lets(0, 0));
+            c.due("a fault in another", -1, Check.town(x, "man m lets all bribe " + sum + ";"));
+            c.due("the bribe stays", 700 + i - 660, x.lets(0, 0));
+        }
     }
 
     private static void well(Check c, String text, int statements) {
