@@ -60,7 +60,8 @@ public final class TenthMan {
     private static final int FRIENDS = COINS + PEOPLE_MOST;
     private static final int ROW = FRIENDS + PEOPLE_MOST;
 
-    private final Tape tape = new Tape();
+    private final Reader reader = new Reader();
+    private final Tape tape = reader.tape;
     private final Judge judge = new Judge();
     private final Ways ways = new Ways();
     private final Standings standings = new Standings();
@@ -71,10 +72,7 @@ public final class TenthMan {
     private final int[] sights = new int[SIGHTS_MOST * SIGHT_BYTES];
     private int sightCount;
     private long lotSeed = 1;
-    /** A text is read into the spare one, so that a fault leaves the told one as it is. */
     private Town told = new Town();
-    private Town spare = new Town();
-    private final Reader reader = new Reader(tape, spare);
 
     public TenthMan() {
     }
@@ -100,14 +98,14 @@ public final class TenthMan {
     }
 
     public int town() {
-        boolean faultless = reader.read(spare);
+        boolean faultless = reader.read();
         tape.length = 0;
         if (!faultless) {
             return NONE;
         }
         Town old = told;
-        told = spare;
-        spare = old;
+        told = reader.town;
+        reader.town = old;
         told.begin(now);
         sightCount = 0;
         history.clear();
@@ -725,7 +723,7 @@ public final class TenthMan {
         }
     }
 
-    /** Reads a text into a town, up to its first fault. */
+    /** Reads the tape's text into a town, up to its first fault. */
     private static final class Reader {
         private static final int NO_SUCH_TEXT = 1;
         private static final int WRONG_NUMBER = 2;
@@ -769,8 +767,9 @@ public final class TenthMan {
         private static final int LEVEL_SUM = 2;
         private static final int LEVEL_PRODUCT = 3;
 
-        private final Tape tape;
-        private Town town;
+        private final Tape tape = new Tape();
+        /** A town beside the told one, so that a fault leaves that one as it is. */
+        private Town town = new Town();
         private int fault;
         private int faultPlace = NONE;
         private int kind;
@@ -781,13 +780,8 @@ public final class TenthMan {
         private int start;
         private int behind;
 
-        Reader(Tape text, Town into) {
-            tape = text;
-            town = into;
-        }
-
-        boolean read(Town into) {
-            begin(into);
+        boolean read() {
+            begin();
             for (int i = 0; i < STATEMENTS_MOST && kind != ENDED; i++) {
                 switch (word) {
                     case W_ROOM:
@@ -819,8 +813,7 @@ public final class TenthMan {
             return fault == 0;
         }
 
-        private void begin(Town into) {
-            town = into;
+        private void begin() {
             town.clear();
             fault = 0;
             faultPlace = NONE;

@@ -1,5 +1,7 @@
 import java.lang.reflect.Method;
 import java.lang.reflect.Modifier;
+import java.util.Arrays;
+import java.util.Comparator;
 
 /** Rule 7: no call throws, for any arguments in any state; and what is none such is refused. */
 public final class NeverThrowsTest {
@@ -23,6 +25,7 @@ public final class NeverThrowsTest {
 
     private static void call(Check c, TenthMan x, Towns lot) throws ReflectiveOperationException {
         Method[] methods = TenthMan.class.getDeclaredMethods();
+        Arrays.sort(methods, Comparator.comparing(Method::getName));
         Method method = methods[lot.below(methods.length)];
         if (!Modifier.isPublic(method.getModifiers())) {
             return;
