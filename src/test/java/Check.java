@@ -15,7 +15,8 @@ final class Check {
         if (want != got) {
             wrong++;
             if (wrong <= 40) {
-                System.out.println(test + ": " + call + " answered " + got + ", due is " + want);
+                String told = call.length() > 400 ? ".." + call.substring(call.length() - 400) : call;
+                System.out.println(test + ": " + told + " answered " + got + ", due is " + want);
             }
         }
     }
@@ -62,6 +63,24 @@ final class Check {
     static int town(TenthMan x, String text) {
         put(x, bytes(text));
         return x.town();
+    }
+
+    /** A text without a fault, of so many statements. */
+    void well(String text, int statements) {
+        TenthMan x = new TenthMan();
+        due("town of " + text, statements, town(x, text));
+        due("fault of " + text, 0, x.fault(0));
+        due("place of " + text, TenthMan.NONE, x.fault(1));
+    }
+
+    /** A text whose first fault is where the mark ^ stands (which is no part of it). */
+    void bad(int fault, String marked) {
+        int place = marked.indexOf('^');
+        String text = marked.substring(0, place) + marked.substring(place + 1);
+        TenthMan x = new TenthMan();
+        due("town of " + marked, TenthMan.NONE, town(x, text));
+        due("fault of " + marked, fault, x.fault(0));
+        due("place of " + marked, place, x.fault(1));
     }
 
     static TenthMan told(String text) {
