@@ -77,6 +77,15 @@ public final class ActEdgesTest {
         c.due("is back", 0, x.person(0, 0));
         c.due("goes again", 2, x.person(0, 1));
         c.due("q stayed", 0, x.person(1, 0));
+        TenthMan full = Full.town();
+        for (int person = 1; person < 6; person++) {
+            full.go(person);
+            c.due("person " + person + " is", person + 1, full.person(person, 0));
+            c.due("person " + person + " goes", person, full.person(person, 1));
+            c.due("person " + person + " has", 9 * person, full.person(person, 2));
+        }
+        c.due("person 0 is", 0, full.person(0, 0));
+        c.due("person 0 goes", 1, full.person(0, 1));
     }
 
     private static void goOfOneWhoIsThere(Check c) {
@@ -139,6 +148,10 @@ public final class ActEdgesTest {
             c.due("man " + man, 0, x.man(man, 2));
         }
         c.due("purses stay", 6, x.has(8));
+        TenthMan one = Check.told("room a;room b;man m lets not all bribe 7 tires 1;gate a b by m;person p at a to b coins 9 tact 0;");
+        one.go(0);
+        one.night();
+        c.due("the first man's, too", 7, one.man(0, 4));
         c.due("friends stay", 1, x.has(9));
         c.due("people stay", 6, x.person(5, 0));
         c.due("the next", 2, x.night());

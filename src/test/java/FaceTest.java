@@ -28,7 +28,9 @@ public final class FaceTest {
         Check c = new Check("FaceTest");
         members(c);
         names(c);
+        fields(c);
         source(c);
+        library(c);
         c.end();
     }
 
@@ -79,6 +81,43 @@ public final class FaceTest {
             c.due(method + " bears a name of its own", false,
                     Modifier.isPrivate(method.getModifiers()) && face.contains(method.getName()));
         }
+    }
+
+    /** Rules 3, 5, 11: what fields are, and that no static one changes. */
+    private static void fields(Check c) {
+        Set<Class<?>> types = Set.of(int.class, long.class, boolean.class, int[].class, int[][].class);
+        Set<Class<?>> constants = Set.of(int.class, long.class, boolean.class, String.class, int[].class);
+        Class<?>[] inside = TenthMan.class.getDeclaredClasses();
+        Set<Class<?>> own = Set.of(inside);
+        int mine = 0;
+        for (int i = -1; i < inside.length; i++) {
+            for (Field field : (i < 0 ? TenthMan.class : inside[i]).getDeclaredFields()) {
+                boolean fixed = Modifier.isStatic(field.getModifiers());
+                c.due(field + " is final if static", true, !fixed || Modifier.isFinal(field.getModifiers()));
+                c.due(field + " is of a type that is left", true,
+                        fixed ? constants.contains(field.getType()) : types.contains(field.getType()) || own.contains(field.getType()));
+                mine += i < 0 && !fixed ? 1 : 0;
+            }
+        }
+        c.due("fields of the face's class: " + mine, true, mine <= 20);
+    }
+
+    /** Rule 4: of the library only what stands there. */
+    private static void library(Check c) throws IOException {
+        String source = Files.readString(Path.of("src/main/java/TenthMan.java"));
+        Set<String> left = Set.of("Arrays.fill", "Arrays.copyOf", "Arrays.copyOfRange", "System.arraycopy", "Math.min", "Math.max", "Math.abs",
+                "Math.floorDiv", "Math.floorMod", "Integer.bitCount", "Integer.compare");
+        Matcher calls = Pattern.compile("\\b(Arrays|System|Math|Integer|Long|String|StringBuilder|List|ArrayList|Character|Objects)\\.(\\w+)").matcher(source);
+        int found = 0;
+        while (calls.find()) {
+            if (!source.startsWith("import", source.lastIndexOf('\n', calls.start()) + 1)) {
+                found++;
+                c.due(calls.group() + " is left", true, left.contains(calls.group()));
+            }
+        }
+        c.due("calls of the library found", true, found > 5);
+        c.due("no doubles", false, Pattern.compile("\\b(double|float|Object|Map|Set|Deque)\\b").matcher(source).find());
+        c.due("nothing joined to a text by +", false, Pattern.compile("\" \\+|\\+ \"").matcher(source).find());
     }
 
     private static void source(Check c) throws IOException {

@@ -409,6 +409,17 @@ public final class ImageEdgesTest {
         c.due("a thirteenth man", false, on(other, summed(spoilt)));
         spoilt[length - 3] = 15;
         c.due("twelve men", true, on(other, summed(spoilt)));
+        // All coins, 150, and 201 more told: in the first man's purse.
+        TenthMan rich = Check.told(Full.text().replace("coins 0", "coins 201"));
+        rich.image();
+        int[] row = new int[87];
+        for (int k = 0; k < 87; k++) {
+            row[k] = rich.octet(k);
+        }
+        row[17] = 201;
+        row[54] = 0;
+        c.due("201 coins in the first man's purse", true, on(rich, summed(row)));
+        c.due("are there", 201, rich.man(0, 4));
     }
 
     private static void ofAnotherTown(Check c) {
@@ -420,5 +431,15 @@ public final class ImageEdgesTest {
         c.due("what the image doesn't tell may be otherwise", true, on(z, summed(TOLD)));
         c.due("an image of nothing", true, on(new TenthMan(), 0, 0, 0, 40));
         c.due("an image of a town in none", false, on(new TenthMan(), summed(TOLD)));
+        TenthMan grown = Full.town();
+        grown.image();
+        int[] full = new int[88];
+        for (int k = 0; k < 88; k++) {
+            full[k] = grown.octet(k);
+        }
+        c.due("a full one", true, on(grown, full));
+        Check.town(grown, TOWN);
+        c.due("the full one in a smaller town", false, on(grown, full));
+        c.due("and the smaller town's", true, on(grown, summed(TOLD)));
     }
 }

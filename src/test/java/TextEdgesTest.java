@@ -25,6 +25,7 @@ public final class TextEdgesTest {
         blanks(c);
         sideBySide(c);
         wordsWhole(c);
+        partsMissing(c);
         fifthDigit(c);
         endsTooSoon(c);
         noneOfWhatIsAsked(c);
@@ -330,6 +331,49 @@ public final class TextEdgesTest {
         c.bad(1, ROOMS + "person p at a to a coins 1 ^tac 1;");
         c.bad(1, "hour 5 ^hour");
         c.bad(1, "hour ^five;");
+    }
+
+    /** Fault 1 where TEST, FACT, SUM, PART or SIGN is asked and what comes behind it stands there. */
+    private static void partsMissing(Check c) {
+        c.bad(1, "man m lets ^bribe 5 tires 1;");
+        c.bad(1, "man m lets all or ^bribe 5 tires 1;");
+        c.bad(1, "man m lets all and ^or all bribe 5 tires 1;");
+        c.bad(1, "man m lets not ^bribe 5 tires 1;");
+        c.bad(1, "man m lets [^] bribe 5 tires 1;");
+        c.bad(1, "man m lets 1 ^bribe 5 tires 1;");
+        c.bad(1, "man m lets 1 ^2 bribe 5 tires 1;");
+        c.bad(1, "man m lets tact ^tact bribe 5 tires 1;");
+        c.bad(1, "man m lets (1)^(2) bribe 5 tires 1;");
+        c.bad(1, "man m lets ^<2 bribe 5 tires 1;");
+        c.bad(1, "man m lets 1<^bribe 5 tires 1;");
+        c.bad(1, "man m lets 1<^=2 bribe 5 tires 1;");
+        c.bad(1, "man m lets 1<2^<3 bribe 5 tires 1;");
+        c.bad(1, "man m lets all^=all bribe 5 tires 1;");
+        c.bad(1, "man m lets all bribe ^tires 1;");
+        c.bad(1, "man m lets all bribe 5+^tires 1;");
+        c.bad(1, "man m lets all bribe 5*^tires 1;");
+        c.bad(1, "man m lets all bribe 5*^/5 tires 1;");
+        c.bad(1, "man m lets all bribe ^-5 tires 1;");
+        c.bad(1, "man m lets all bribe (^) tires 1;");
+        c.bad(1, "man m lets all bribe (5^,6) tires 1;");
+        c.bad(1, "man m lets all bribe min ^5 tires 1;");
+        c.bad(1, "man m lets all bribe min ^tires 1;");
+        c.bad(1, "man m lets all bribe min(^,6) tires 1;");
+        c.bad(1, "man m lets all bribe min(5,^) tires 1;");
+        c.bad(1, "man m lets all bribe min(5^) tires 1;");
+        c.bad(1, "man m lets all bribe max(5,6^,7) tires 1;");
+        c.bad(1, "man m lets all bribe max(5,6 ^tires 1;");
+        c.bad(1, "man m lets all bribe (5 ^tires 1;");
+        c.bad(1, "man m lets [all ^bribe 5 tires 1;");
+        c.bad(1, "man m lets all^] bribe 5 tires 1;");
+        c.bad(1, "man m lets all bribe 5^) tires 1;");
+        c.bad(1, "man m lets all bribe ^all tires 1;");
+        c.bad(1, "man m lets all bribe ^not 5 tires 1;");
+        c.bad(1, "man m lets all bribe ^[5] tires 1;");
+        c.bad(1, "man m lets (^all) bribe 5 tires 1;");
+        c.bad(1, "man m lets (1^<2) bribe 5 tires 1;");
+        c.bad(1, "man m lets all bribe ^m tires 1;");
+        c.bad(1, "man m lets all bribe ^coins tires 1;");
     }
 
     /** "N (1 to 4 digits)"; fault 1: "where a number is asked, a 5th digit at itself". */

@@ -145,6 +145,18 @@ public final class TownEdgesTest {
         c.due("man 11", 11, x.lets(11, 5));
         c.due("a fault behind men", -1, Check.town(x, Full.men(12) + "!"));
         c.due("man 11 still", 11, x.lets(11, 5));
+        c.due("standings of the full town", 6, x.exchange(-1));
+        c.due("a small town again", 4, Check.town(x, "room a;room b;man m lets all bribe 7 tires 1;person p at a to b coins 1 tact 5;"));
+        c.due("its standings", 0, x.exchange(-1));
+        c.due("its standing, of no gates", 0, x.stand(-1));
+        String sum = "0" + "+1".repeat(750);
+        for (int i = 0; i < 5; i++) {
+            String text = "room a;man m lets not all bribe " + sum + "-700+" + i + " tires 1;person p at a to a coins 1 tact 1;";
+            c.due("a long sum " + i, 3, Check.town(x, text));
+            c.due("is reckoned whole", 50 + i, x.lets(0, 0));
+            c.due("a long one with a fault", -1, Check.town(x, "man m lets all bribe " + sum + ";"));
+            c.due("leaves it", 50 + i, x.lets(0, 0));
+        }
     }
 
     /** Promise 5: "its FAULT (what 0; 0 without, and ahead of any), its place (1; NONE without). NONE for another what." */

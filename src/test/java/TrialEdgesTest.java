@@ -341,6 +341,19 @@ public final class TrialEdgesTest {
         x.go(1);
         x.go(1);
         stand(c, "q paid twice", x, 1, 3, 0, 1);
+        x.night();
+        x.image();
+        byte[] bytes = new byte[24];
+        for (int k = 0; k < 24; k++) {
+            bytes[k] = (byte) x.octet(k);
+        }
+        x.friend(0, 0, true);
+        stand(c, "a friend", x, 1, 0, 0, 1);
+        exchange(c, "a friend", x, 1, 0, 0, 0, 1);
+        Check.put(x, bytes);
+        c.due("on", true, x.on());
+        stand(c, "an image", x, 1, 3, 0, 1);
+        exchange(c, "an image", x, 1, 3, 0, 0, 1);
     }
 
     /** III: "By EXCHANGES: from now on". */
