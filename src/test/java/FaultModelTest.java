@@ -3,7 +3,9 @@ public final class FaultModelTest {
     public static void main(String[] args) {
         Check c = new Check("FaultModelTest");
         int[] faults = new int[6];
-        for (int i = 0; i < 4000; i++) {
+        int runs = args.length > 0 ? Integer.parseInt(args[0]) : 4000;
+        int from = args.length > 1 ? Integer.parseInt(args[1]) : 0;
+        for (int i = from; i < from + runs; i++) {
             Towns towns = new Towns(i);
             String text = i % 4 == 3 ? towns.jumble() : towns.text(12);
             if (i % 4 != 0) {
@@ -14,7 +16,7 @@ public final class FaultModelTest {
             }
             faults[compare(c, text)]++;
         }
-        for (int fault = 0; fault < 6; fault++) {
+        for (int fault = 0; fault < 6 && runs >= 4000; fault++) {
             c.due("fault " + fault + " came about", true, faults[fault] > 20);
         }
         c.end();

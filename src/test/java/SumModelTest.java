@@ -6,7 +6,9 @@ public final class SumModelTest {
         Check c = new Check("SumModelTest");
         int free = 0;
         int dear = 0;
-        for (int i = 0; i < 6000; i++) {
+        int runs = args.length > 0 ? Integer.parseInt(args[0]) : 6000;
+        int from = args.length > 1 ? Integer.parseInt(args[1]) : 0;
+        for (int i = from; i < from + runs; i++) {
             Towns lot = new Towns(70000 + i);
             String test = lot.test(i % 7);
             String bribe = i % 2 == 0 ? lot.sum(i % 7) : "50+(" + lot.sum(i % 6) + ")/(1+" + lot.below(400) + ")";
@@ -30,8 +32,10 @@ public final class SumModelTest {
             Check.town(x, text);
             c.due("lets in " + text, want, x.lets(0, 1));
         }
-        c.due("many for nothing", true, free > 500);
-        c.due("many for coins", true, dear > 500);
+        if (runs >= 6000) {
+            c.due("many for nothing", true, free > 500);
+            c.due("many for coins", true, dear > 500);
+        }
         // All that can wait waits: a lot, a joint of each kind and the first of two, six deep.
         String deep = "1+2*max(3,".repeat(6) + "1+2*4" + ")".repeat(6);
         TenthMan x = Check.told("room a;person p at a to a coins 0 tact 9;man m lets 1=2 or 1=1 and 1=" + deep
